@@ -1,0 +1,159 @@
+import java.lang.reflect.InvocationTargetException;
+import java.lang.reflect.Method;
+import java.util.ArrayList;
+import java.util.List;
+import java.util.Random;
+
+/** All promises: runs of calls, the same ones each time, on the class and on the model. */
+final class RandomRunsTest {
+    private static final int RUNS = 400;
+    private static final int CALLS = 512;
+    private static final String[] KINDS = {"book", "book", "paper", "letter", "talk", "notes", "denial"};
+
+    private static final List<Method> QUERIES = new ArrayList<>();
+
+    private final Random random;
+    private final WhosaidDesk desk = new WhosaidDesk();
+    private final Model model = new Model();
+    private final String run;
+    private int calls;
+
+    private RandomRunsTest(int number) {
+        random = new Random(number);
+        run = "run " + number;
+    }
+
+    public static void main(String[] args) {
+        List<String> changing = List.of("word", "say", "wipe", "letter", "person", "setFame", "document", "search",
+                "collection", "enter", "quote", "push");
+        for (Method method : WhosaidDesk.class.getDeclaredMethods()) {
+            if (java.lang.reflect.Modifier.isPublic(method.getModifiers()) && !changing.contains(method.getName())) {
+                QUERIES.add(method);
+            }
+        }
+        QUERIES.sort((one, other) -> one.getName().compareTo(other.getName()));
+        for (int number = 0; number < RUNS; number++) {
+            new RandomRunsTest(number).play();
+        }
+        Check.end();
+    }
+
+    private void play() {
+        for (int many = 0; many < 9; many++) {
+            call("word", pick(5), pick(10) < 7 ? 0 : pick(3), pick(5) == 0 ? 1700 + pick(200) : 1000);
+        }
+        for (int many = 0; many < 4; many++) {
+            int born = 1650 + pick(200);
+            call("person", born, born + pick(90));
+        }
+        while (calls < CALLS) {
+            int choice = pick(30);
+            if (choice < 5) {
+                document();
+            } else if (choice < 7) {
+                search();
+            } else {
+                small(choice);
+            }
+            for (int many = 0; many < 4; many++) {
+                query();
+            }
+        }
+    }
+
+    private void small(int choice) {
+        switch (choice) {
+            case 7 -> call("setFame", off(4), pick(25) - 2, pick(22) - 1, year());
+            case 8 -> call("collection", 1900 + pick(3));
+            case 9, 10, 11, 12 -> call("enter", off(5), off(model.documents()));
+            case 13, 14 -> call("quote", pick(12) - 1, off(model.documents()), off(4));
+            case 15 -> call(pick(3) == 0 ? "push" : "pushes");
+            case 16 -> call("word", pick(33) - 1, pick(6) - 1, pick(30) == 0 ? 999 : year());
+            case 17 -> call("person", year(), pick(4) == 0 ? year() : 2100);
+            case 18 -> call("say", off(10));
+            case 19 -> call("letter", (char) ('`' + pick(28)));
+            default -> query();
+        }
+    }
+
+    private void document() {
+        if (pick(10) > 0) {
+            call("wipe");
+        }
+        type();
+        for (int many = 1 + pick(4); many > 0; many--) {
+            call("say", pick(9));
+        }
+        call("document", year(), pick(12) - 1, pick(5) - 1, pick(5) - 1, pick(3) == 0 ? pick(102) : 0);
+    }
+
+    private void search() {
+        call("wipe");
+        type();
+        for (int many = 1 + pick(2); many > 0; many--) {
+            call("say", pick(9));
+        }
+        int from = pick(3) == 0 ? 1000 : year();
+        call("search", from, pick(3) == 0 ? 2100 : from + 30 + pick(200), pick(4) == 0 ? 100 : pick(102), pick(6) - 1);
+    }
+
+    private void type() {
+        String kind = KINDS[pick(KINDS.length)];
+        for (int place = 0; place < kind.length(); place++) {
+            call("letter", kind.charAt(place));
+        }
+    }
+
+    private void query() {
+        Method method = QUERIES.get(pick(QUERIES.size()));
+        Object[] arguments = new Object[method.getParameterCount()];
+        for (int place = 0; place < arguments.length; place++) {
+            arguments[place] = off(place == 0 || !method.getName().matches("verdict|since|couldSay") ? 1 + model.documents() : 5);
+        }
+        if (method.getName().equals("fame")) {
+            arguments[1] = year();
+        }
+        if (method.getName().matches("slips|common|copiedFrom")) {
+            for (int place = 0; place < arguments.length; place++) {
+                arguments[place] = off(5);
+            }
+        }
+        call(method.getName(), arguments);
+    }
+
+    /** A number below the count, now and then one beside it. */
+    private int off(int count) {
+        return pick(40) == 0 ? pick(2) == 0 ? -1 : count : pick(Math.max(1, count));
+    }
+
+    private int year() {
+        return pick(12) == 0 ? 998 + pick(1105) : 1680 + pick(250);
+    }
+
+    private int pick(int count) {
+        return random.nextInt(count);
+    }
+
+    private void call(String name, Object... arguments) {
+        calls++;
+        if (calls <= CALLS) {
+            Object want = answer(model, Model.class, name, arguments);
+            Object got = answer(desk, WhosaidDesk.class, name, arguments);
+            Check.same(run + ", call " + calls + ", " + name + java.util.Arrays.toString(arguments), want, got);
+        }
+    }
+
+    private static Object answer(Object on, Class<?> type, String name, Object[] arguments) {
+        Class<?>[] types = new Class<?>[arguments.length];
+        for (int place = 0; place < types.length; place++) {
+            types[place] = arguments[place] instanceof Character ? char.class : int.class;
+        }
+        try {
+            return type.getMethod(name, types).invoke(on, arguments);
+        } catch (InvocationTargetException thrown) {
+            return thrown.getCause().getClass().getSimpleName();
+        } catch (ReflectiveOperationException other) {
+            return other.toString();
+        }
+    }
+}
