@@ -322,7 +322,7 @@ public final class WhosaidDesk {
 
     public int leastOfAll() throws UnsupportedOperationException {
         needTrue(ways.count <= MOST_FOR_ALL_HISTORIES);
-        return ways.leastFrom(0, 0);
+        return ways.leastOfHistories();
     }
 
     public int documents() {
@@ -352,7 +352,8 @@ public final class WhosaidDesk {
     }
 
     public boolean isSound() {
-        return ways.areAllFair() && (ways.count > MOST_FOR_ALL_HISTORIES || ways.leastFrom(0, 0) >= ways.sumOfPrices());
+        return ways.areAllFair()
+                && (ways.count > MOST_FOR_ALL_HISTORIES || ways.leastOfHistories() >= ways.sumOfPrices());
     }
 
     private static void needWithin(int number, int least, int most) {
@@ -367,7 +368,6 @@ public final class WhosaidDesk {
 
     private static void needYears(int first, int last) {
         needYear(first);
-        needYear(last);
         needWithin(last, first, LAST_YEAR);
     }
 
@@ -450,7 +450,6 @@ public final class WhosaidDesk {
             return added;
         }
 
-        /** The letter of the step by which one word becomes the other one. */
         char stepOfPair(int one, int other) {
             if (one == other) {
                 return '=';
@@ -539,10 +538,8 @@ public final class WhosaidDesk {
             int added = count;
             born[added] = birth;
             died[added] = death;
-            toldFame[added] = 0;
-            growth[added] = 0;
-            famousFrom[added] = FIRST_YEAR;
             count++;
+            tellFame(added, 0, 0, FIRST_YEAR);
             return added;
         }
 
@@ -566,7 +563,6 @@ public final class WhosaidDesk {
             return year >= born[person] + FIRST_SPEECH;
         }
 
-        /** Whether a document of this year can be the first one that names the person. */
         boolean isOfTime(int person, int year) {
             return speaksBy(person, year) && year <= died[person] + LATEST_PRINT;
         }
@@ -668,7 +664,7 @@ public final class WhosaidDesk {
             return between[one][other] <= MOST_OF_NEAR;
         }
 
-        /** Notes the steps of one text to the other one, the last step first. */
+        /** The last step is noted first, since the steps are told from the ends on. */
         void trace(int one, int other) {
             leastSum(one, other);
             int i = papers.length[one];
@@ -780,7 +776,6 @@ public final class WhosaidDesk {
             return under[root[version]] + 1;
         }
 
-        /** The version of a tree at an index, or NONE. */
         int memberAt(int version, int index) {
             int ahead = 0;
             for (int place = 0; place < count; place++) {
@@ -824,16 +819,15 @@ public final class WhosaidDesk {
             return origins;
         }
 
-        /** The least of all histories that go on from a place; only so few versions are looked at that it is shallow. */
-        int leastFrom(int place, int spent) {
-            if (place >= count || place >= MOST_FOR_ALL_HISTORIES) {
-                return spent;
+        /** Each history is a number that tells the way of every version, so this is for few versions only. */
+        int leastOfHistories() {
+            int histories = 1;
+            for (int place = 1; place < count && place < MOST_FOR_ALL_HISTORIES; place++) {
+                histories *= place + 1;
             }
-            int version = order[place];
-            int least = leastFrom(place + 1, spent + priceAsOrigin(version));
-            for (int ahead = 0; ahead < place; ahead++) {
-                int way = priceAsCopy(version, order[ahead], priceOfName(version));
-                least = Math.min(least, leastFrom(place + 1, spent + way));
+            int least = priceOfHistory(0);
+            for (int history = 1; history < histories; history++) {
+                least = Math.min(least, priceOfHistory(history));
             }
             return least;
         }
@@ -847,6 +841,24 @@ public final class WhosaidDesk {
             return true;
         }
 
+        private int priceOfHistory(int history) {
+            int sum = 0;
+            int rest = history;
+            for (int place = 0; place < count; place++) {
+                int ways = place + 1;
+                sum += priceOfWay(place, rest % ways);
+                rest /= ways;
+            }
+            return sum;
+        }
+
+        /** The ways are the versions ahead, as they stand in the order, and behind them that of an origin. */
+        private int priceOfWay(int place, int way) {
+            int version = order[place];
+            return way == place ? priceAsOrigin(version)
+                    : priceAsCopy(version, order[way], priceOfNewName(version));
+        }
+
         private boolean isFair(int version) {
             int asOrigin = priceAsOrigin(version);
             int from = copyOf[version];
@@ -854,7 +866,7 @@ public final class WhosaidDesk {
                 return price[version] == asOrigin;
             }
             return papers.isAhead(from, version) && price[version] <= asOrigin
-                    && price[version] == priceAsCopy(version, from, priceOfName(version));
+                    && price[version] == priceAsCopy(version, from, priceOfNewName(version));
         }
 
         private void putInOrder() {
@@ -878,7 +890,7 @@ public final class WhosaidDesk {
 
         private void chooseWay(int place) {
             int version = order[place];
-            int nameChange = priceOfName(version);
+            int nameChange = priceOfNewName(version);
             int from = NONE;
             int least = priceAsOrigin(version);
             for (int ahead = 0; ahead < place; ahead++) {
@@ -930,8 +942,7 @@ public final class WhosaidDesk {
             return papers.named[version] == papers.named[from] ? sum : sum + nameChange;
         }
 
-        /** What it costs a copy to name whom it names, if what it is copied from does not. */
-        private int priceOfName(int version) {
+        private int priceOfNewName(int version) {
             int person = papers.named[version];
             if (person == NONE) {
                 return NAME_LOST;
@@ -984,7 +995,6 @@ public final class WhosaidDesk {
             return found;
         }
 
-        /** How well the years ahead of a year were searched, in hundredths. */
         int thoroughness(int year) {
             int sum = 0;
             for (int each = 0; each < KINDS_OF_VERSIONS; each++) {
@@ -1072,13 +1082,11 @@ public final class WhosaidDesk {
             return firstThatNames(root, person) == NONE ? 'u' : 'm';
         }
 
-        /** Whether a person could say the text of a document by its year. */
         boolean isAble(int person, int document) {
             int year = papers.year[document];
             return people.speaksBy(person, year) && papers.hasWordsBy(document, Math.min(year, people.died[person]));
         }
 
-        /** The first version, in the tree of one, that names a person, or NONE. */
         int firstThatNames(int version, int person) {
             for (int place = 0; place < ways.count; place++) {
                 int each = ways.order[place];
@@ -1118,7 +1126,6 @@ public final class WhosaidDesk {
             return NONE;
         }
 
-        /** The version, but the root, with most below it, or NONE if there are only copies of the root. */
         private int mostCopied(int root) {
             int most = 0;
             int best = NONE;
@@ -1154,7 +1161,6 @@ public final class WhosaidDesk {
         int add(int itsYear) {
             int added = count;
             year[added] = itsYear;
-            size[added] = 0;
             count++;
             return added;
         }
@@ -1165,7 +1171,6 @@ public final class WhosaidDesk {
             return size[shelf];
         }
 
-        /** The place of a document in a collection, or NONE. */
         int placeOf(int shelf, int document) {
             for (int place = 0; place < size[shelf]; place++) {
                 if (entries[shelf][place] == document) {
@@ -1200,13 +1205,13 @@ public final class WhosaidDesk {
             return sum;
         }
 
-        /** The collection from which one is copied, or NONE. */
         int modelOf(int shelf) {
             int most = LEAST_OF_A_COPY - 1;
             int best = NONE;
             for (int each = 0; each < count; each++) {
-                if (isAhead(each, shelf) && shared(shelf, each) > most) {
-                    most = shared(shelf, each);
+                int alike = isAhead(each, shelf) ? shared(shelf, each) : 0;
+                if (alike > most) {
+                    most = alike;
                     best = each;
                 }
             }
@@ -1245,7 +1250,6 @@ public final class WhosaidDesk {
             outlet[count] = itsOutlet;
             version[count] = itsVersion;
             person[count] = itsPerson;
-            isCorrected[count] = false;
             count++;
             return count;
         }

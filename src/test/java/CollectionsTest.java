@@ -66,6 +66,7 @@ final class CollectionsTest {
         Check.unsupported("32 in it ahead of full", () -> scene.desk.enter(0, 8));
         Check.same("32 another collection", 1, scene.desk.enter(1, 8));
         Check.same("34 all stand in it still", 7, scene.desk.common(0, 0));
+        Check.same("33 eight without slips", 0, scene.desk.slips(0));
     }
 
     private static void entriesAreRefused() {
@@ -183,6 +184,7 @@ final class CollectionsTest {
         Check.same("35 by years", 3, desk.copiedFrom(1));
         Check.same("35 of one year by numbers", 1, desk.copiedFrom(2));
         Check.absent("35 none is ahead", () -> desk.copiedFrom(3));
+        Check.absent("35 an empty fifth one", () -> desk.copiedFrom(desk.collection(2000)));
     }
 
     private static void wrongCollectionsAreRefused() {

@@ -144,7 +144,8 @@ final class DocumentsTest {
         Check.same("10 longer than the text", 0, found(9, new int[] {0, 0, 0}, 0, 0));
         Check.same("10 gap 8 over ten", 1, found(8, new int[] {0, 1}, 0, 8, 8, 8, 8, 8, 8, 8, 8, 1));
         Check.same("10 gap 7 over ten", 0, found(7, new int[] {0, 1}, 0, 8, 8, 8, 8, 8, 8, 8, 8, 1));
-        Check.same("10 the whole text", 1, found(0, new int[] {0, 1, 2, 8, 0, 1, 2, 8, 0, 1}, 0, 1, 2, 8, 0, 1, 2, 8, 0, 1));
+        int[] ten = {0, 1, 2, 8, 0, 1, 2, 8, 0, 1};
+        Check.same("10 the whole text", 1, found(0, ten, ten));
         Check.same("10 any tongue", 1, found(0, new int[] {3, 1}, 9, 4));
     }
 

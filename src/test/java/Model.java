@@ -151,8 +151,8 @@ public final class Model {
         logged.add(new int[] {KINDS.indexOf(name), from, to, depth});
         int found = 0;
         for (Paper it : papers) {
-            boolean looked = !it.known && it.kind.equals(name) && it.year >= from && it.year <= to && it.hidden <= depth;
-            if (looked && stands(it.text, 0, it.text.size() - 1, 0, gap)) {
+            boolean looked = !it.known && it.kind.equals(name) && it.hidden <= depth;
+            if (looked && it.year >= from && it.year <= to && stands(it.text, 0, it.text.size() - 1, 0, gap)) {
                 it.known = true;
                 found++;
             }
@@ -275,7 +275,8 @@ public final class Model {
 
     private boolean denied(int person, Paper it, int year) {
         for (Paper each : papers) {
-            if (each.known && each.kind.equals("denial") && each.said == person && each.year <= year && near(each, it)) {
+            boolean denial = each.known && each.kind.equals("denial") && each.said == person;
+            if (denial && each.year <= year && near(each, it)) {
                 return true;
             }
         }
@@ -610,20 +611,16 @@ public final class Model {
     public int leastOfAll() {
         List<Paper> all = allVersions();
         unsupported(all.size() > 5);
-        int histories = 1;
-        for (int place = 1; place <= all.size(); place++) {
-            histories *= place;
+        return least(all, 0);
+    }
+
+    private int least(List<Paper> all, int place) {
+        if (place == all.size()) {
+            return 0;
         }
-        int least = Integer.MAX_VALUE;
-        for (int history = 0; history < histories; history++) {
-            int rest = history;
-            int sum = 0;
-            for (int place = 0; place < all.size(); place++) {
-                int way = rest % (place + 1);
-                rest /= place + 1;
-                sum += way == place ? asOrigin(all.get(place)) : asCopy(all.get(place), all.get(way));
-            }
-            least = Math.min(least, sum);
+        int least = asOrigin(all.get(place)) + least(all, place + 1);
+        for (Paper from : all.subList(0, place)) {
+            least = Math.min(least, asCopy(all.get(place), from) + least(all, place + 1));
         }
         return least;
     }

@@ -108,7 +108,8 @@ final class RandomRunsTest {
         Method method = QUERIES.get(pick(QUERIES.size()));
         Object[] arguments = new Object[method.getParameterCount()];
         for (int place = 0; place < arguments.length; place++) {
-            arguments[place] = off(place == 0 || !method.getName().matches("verdict|since|couldSay") ? 1 + model.documents() : 5);
+            boolean person = place == 1 && method.getName().matches("verdict|since|couldSay");
+            arguments[place] = off(person ? 5 : model.documents() + 1);
         }
         if (method.getName().equals("fame")) {
             arguments[1] = year();
@@ -121,9 +122,10 @@ final class RandomRunsTest {
         call(method.getName(), arguments);
     }
 
-    /** A number below the count, now and then one beside it. */
+    /** A number below the count, now and then one beside it or far from it. */
     private int off(int count) {
-        return pick(40) == 0 ? pick(2) == 0 ? -1 : count : pick(Math.max(1, count));
+        int[] strange = {-1, count, Integer.MAX_VALUE, Integer.MIN_VALUE};
+        return pick(40) == 0 ? strange[pick(4)] : pick(Math.max(1, count));
     }
 
     private int year() {

@@ -39,6 +39,7 @@ final class VerdictsTest {
         int diedAhead = desk.person(1700, 1849);
         Check.same("24 a word from the year of death", true, desk.couldSay(late, died));
         Check.same("24 a word from behind it", false, desk.couldSay(late, diedAhead));
+        Check.same("24 ten words", true, desk.couldSay(scene.book(1850, 0, 0, 0, 0, 0, 0, 0, 0, 0, 0), Scene.BEN));
     }
 
     private static void wordsMustBeThere() {
@@ -49,6 +50,15 @@ final class VerdictsTest {
         Check.same("25 a year too early", false, scene.desk.isPossible(ahead));
         Check.same("25 in its year", true, scene.desk.isPossible(then));
         Check.same("25 in the first year", true, scene.desk.isPossible(old));
+        WhosaidDesk young = new WhosaidDesk();
+        young.word(0, 0, 1900);
+        young.word(1, 0, 1800);
+        young.say(1);
+        for (char letter : "talk".toCharArray()) {
+            young.letter(letter);
+        }
+        young.document(1850, 5, -1, -1, 0);
+        Check.same("25 only its words count", true, young.isPossible(0));
         Check.index("25 -1", () -> scene.desk.isPossible(-1));
         Check.index("25 too far", () -> scene.desk.isPossible(3));
     }
@@ -191,7 +201,7 @@ final class VerdictsTest {
         scene.search("book", 1771, 1799, 100, 0, Scene.TWO);
         scene.search("book", 1770, 1798, 100, 0, Scene.TWO);
         Check.same("28 not all years", 0, desk.sure(root));
-        scene.search("book", 1770, 1799, 52, 0, Scene.TWO);
+        scene.search("book", 1770, 1799, 54, 0, Scene.TWO);
         Check.same("28 cut", 10, desk.sure(root));
         scene.search("book", 1000, 2100, 50, 0, Scene.TWO);
         Check.same("28 the greatest depth", 10, desk.sure(root));
