@@ -1,13 +1,16 @@
 import java.util.ArrayList;
 import java.util.Comparator;
+import java.util.HashMap;
 import java.util.HashSet;
 import java.util.List;
+import java.util.Map;
 import java.util.NoSuchElementException;
+import java.util.Optional;
 import java.util.Set;
 
 /**
- * The document's terms put down a second time, as slowly and as near to its words as goes: nothing is kept but what
- * was told, and each answer is worked out anew. The random runs compare the class with it.
+ * The document's terms put down a second time, slowly and as near to its words as goes: nothing is kept but what was
+ * told and, until the next change, the sources found. The random runs compare the class with it.
  */
 public final class Model {
     private static final List<String> KINDS = List.of("book", "paper", "letter", "talk", "notes", "denial");
@@ -42,6 +45,7 @@ public final class Model {
     private final List<Integer> collectionYears = new ArrayList<>();
     private final List<List<Integer>> collections = new ArrayList<>();
     private final List<Quote> quotes = new ArrayList<>();
+    private final Map<Paper, Optional<Paper>> sources = new HashMap<>();
     private List<int[]> buffer = new ArrayList<>();
     private String name = "";
     private int moved;
@@ -195,6 +199,7 @@ public final class Model {
     }
 
     private void countMoved(int[] before) {
+        sources.clear();
         int[] now = roots();
         moved = 0;
         for (int each = 0; each < before.length; each++) {
@@ -321,6 +326,10 @@ public final class Model {
     }
 
     private Paper from(Paper it) {
+        return sources.computeIfAbsent(it, key -> Optional.ofNullable(bestFrom(key))).orElse(null);
+    }
+
+    private Paper bestFrom(Paper it) {
         Paper best = null;
         int least = asOrigin(it);
         for (Paper each : papers) {

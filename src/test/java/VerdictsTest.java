@@ -17,6 +17,7 @@ final class VerdictsTest {
         earlyYearsAreNeverSure();
         rootsAreParallel();
         proverbsHaveManyOrigins();
+        thirtyVersionsAreLookedAt();
         wrongNumbersAreRefused();
         Check.end();
     }
@@ -282,6 +283,20 @@ final class VerdictsTest {
         copies.book(1801, Scene.ONE);
         copies.book(1802, Scene.ONE);
         Check.same("30 copies are no origins", false, copies.desk.isProverb(0));
+    }
+
+    private static void thirtyVersionsAreLookedAt() {
+        Scene scene = new Scene();
+        for (int many = 0; many < 30; many++) {
+            scene.book(1829 - many, Scene.ONE);
+        }
+        scene.desk.setFame(Scene.ADA, 1, 1, 1800);
+        Check.same("21 thirty", 30, scene.desk.versions(0));
+        Check.absent("22 no more", () -> scene.desk.versionAt(0, 30));
+        Check.same("26 u of thirty", 'u', scene.desk.verdict(0, Scene.ADA));
+        Check.absent("27 none of thirty", () -> scene.desk.since(0, Scene.ADA));
+        Check.same("30 one origin of thirty", false, scene.desk.isProverb(0));
+        Check.same("47 thirty are sound", true, scene.desk.isSound());
     }
 
     private static void wrongNumbersAreRefused() {
