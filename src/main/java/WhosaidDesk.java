@@ -1073,10 +1073,11 @@ public final class WhosaidDesk {
             if (papers.named[root] == person && isAble(person, root) && !ways.hasDenied(person, root, LAST_YEAR)) {
                 return 's';
             }
-            if (isBy(firstTranslation(root), person)) {
+            if (hasTranslated(person, root)) {
                 return 't';
             }
-            if (isBy(mostCopied(root), person)) {
+            int popular = mostCopied(root);
+            if (popular != NONE && papers.author[popular] == person) {
                 return 'p';
             }
             return firstThatNames(root, person) == NONE ? 'u' : 'm';
@@ -1111,19 +1112,20 @@ public final class WhosaidDesk {
             return alike >= ORIGINS_OF_A_PROVERB;
         }
 
-        private boolean isBy(int version, int person) {
-            return version != NONE && papers.author[version] == person;
-        }
-
-        private int firstTranslation(int root) {
-            int tongue = papers.tongueOf(root);
+        /** The root is the first version of its own tongue, so the tongues seen begin with this one. */
+        private boolean hasTranslated(int person, int root) {
+            int tonguesSeen = 1 << papers.tongueOf(root);
             for (int place = 0; place < ways.count; place++) {
                 int each = ways.order[place];
-                if (ways.isInTree(each, root) && papers.tongueOf(each) != tongue) {
-                    return each;
+                int tongue = 1 << papers.tongueOf(each);
+                if (ways.isInTree(each, root) && (tonguesSeen & tongue) == 0) {
+                    if (papers.author[each] == person) {
+                        return true;
+                    }
+                    tonguesSeen |= tongue;
                 }
             }
-            return NONE;
+            return false;
         }
 
         private int mostCopied(int root) {

@@ -438,12 +438,11 @@ public final class Model {
             return 's';
         }
         List<Paper> tree = tree(it);
-        for (Paper each : tree) {
-            if (each.text.get(0)[2] != root.text.get(0)[2]) {
-                if (each.author == person) {
-                    return 't';
-                }
-                break;
+        for (int tongue = 0; tongue <= 3; tongue++) {
+            int its = tongue;
+            Paper first = tree.stream().filter(each -> each.text.get(0)[2] == its).findFirst().orElse(root);
+            if (first != root && first.author == person) {
+                return 't';
             }
         }
         Paper most = null;

@@ -43,7 +43,7 @@ final class RandomRunsTest {
     private void play() {
         for (int many = 0; many < 9; many++) {
             int concept = isNameless ? many : pick(4);
-            call("word", concept, pick(10) < 7 ? 0 : pick(3), pick(5) == 0 ? 1700 + pick(200) : 1000);
+            call("word", concept, pick(10) < 6 ? 0 : pick(4), pick(5) == 0 ? 1700 + pick(200) : 1000);
         }
         for (int many = 0; many < 4; many++) {
             int born = 1650 + pick(200);

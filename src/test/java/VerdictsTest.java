@@ -8,7 +8,8 @@ final class VerdictsTest {
         wordsMustBeThere();
         theAuthorOfTheRootWroteIt();
         whomTheRootNamesSaidIt();
-        theFirstOfAnotherTongueTranslatedIt();
+        theFirstOfATongueTranslatedIt();
+        eachTongueHasAFirstVersion();
         theMostCopiedOneMadeItPopular();
         othersAreNamedOrUnknown();
         verdictsHoldInOrder();
@@ -98,20 +99,22 @@ final class VerdictsTest {
         Check.same("26 s if another one denied", 's', other.desk.verdict(0, Scene.BEN));
     }
 
-    private static void theFirstOfAnotherTongueTranslatedIt() {
+    private static void theFirstOfATongueTranslatedIt() {
         Scene scene = new Scene();
         WhosaidDesk desk = scene.desk;
         int root = scene.book(1800, Scene.ONE, Scene.TWO);
-        scene.by(Scene.NOBODY, 1802, Scene.SINGLE, Scene.DEUX);
-        int second = scene.by(Scene.BEN, 1812, Scene.EINS, Scene.TWO);
-        int third = scene.by(Scene.CYD, 1811, Scene.UN, Scene.TWO);
-        Check.same("26 all in one tree", 4, desk.versions(root));
-        Check.same("26 t of the earlier one", 't', desk.verdict(second, Scene.CYD));
-        Check.same("26 u of the later one", 'u', desk.verdict(third, Scene.BEN));
-        scene.by(Scene.ADA, 1811, Scene.EINS, Scene.DEUX);
+        scene.by(Scene.BEN, 1802, Scene.SINGLE, Scene.DEUX);
+        Check.same("26 u in the root's tongue", 'u', desk.verdict(root, Scene.BEN));
+        int later = scene.by(Scene.BEN, 1812, Scene.UN, Scene.TWO);
+        Check.same("26 t of the only one", 't', desk.verdict(root, Scene.BEN));
+        scene.by(Scene.CYD, 1811, Scene.UN, Scene.TWO);
+        Check.same("26 t of the earlier one", 't', desk.verdict(later, Scene.CYD));
+        Check.same("26 u of the later one", 'u', desk.verdict(root, Scene.BEN));
+        scene.by(Scene.ADA, 1811, Scene.UN, Scene.DEUX);
+        Check.same("26 all in one tree", 5, desk.versions(root));
         Check.same("26 t of one year by numbers", 't', desk.verdict(root, Scene.CYD));
         Check.same("26 u of one year by numbers", 'u', desk.verdict(root, Scene.ADA));
-        scene.by(Scene.NOBODY, 1810, Scene.EINS, Scene.TWO);
+        scene.by(Scene.NOBODY, 1810, Scene.UN, Scene.TWO);
         Check.same("26 nobody translated it", 'u', desk.verdict(root, Scene.CYD));
         Scene french = new Scene();
         french.book(1800, Scene.UN, Scene.TWO);
@@ -119,6 +122,27 @@ final class VerdictsTest {
         Check.same("26 t by the first word", 't', french.desk.verdict(0, Scene.BEN));
         french.by(Scene.CYD, 1700, 8, 8, 8, 8, 8, 8);
         Check.same("26 of this tree", 't', french.desk.verdict(0, Scene.BEN));
+    }
+
+    private static void eachTongueHasAFirstVersion() {
+        Scene scene = new Scene();
+        WhosaidDesk desk = scene.desk;
+        int uno = desk.word(0, 3, 1000);
+        int root = scene.book(1800, Scene.ONE, Scene.TWO);
+        scene.by(Scene.NOBODY, 1801, Scene.UN, Scene.TWO);
+        scene.by(Scene.ADA, 1802, Scene.UN, Scene.TWO);
+        scene.by(Scene.BEN, 1803, Scene.EINS, Scene.TWO);
+        scene.by(Scene.ADA, 1804, Scene.EINS, Scene.TWO);
+        int last = scene.by(Scene.CYD, 1805, uno, Scene.TWO);
+        Check.same("26 four tongues in one tree", 6, desk.versions(root));
+        Check.same("26 u of the second ones", 'u', desk.verdict(root, Scene.ADA));
+        Check.same("26 t of the second tongue", 't', desk.verdict(root, Scene.BEN));
+        Check.same("26 t of the third tongue", 't', desk.verdict(last, Scene.CYD));
+        scene.by(Scene.ADA, 1805, uno, Scene.DEUX);
+        Check.same("26 u of the second one of a year", 'u', desk.verdict(last, Scene.ADA));
+        scene.by(Scene.ADA, 1804, uno, Scene.DEUX);
+        Check.same("26 t of the new first one", 't', desk.verdict(last, Scene.ADA));
+        Check.same("26 u of the former one", 'u', desk.verdict(last, Scene.CYD));
     }
 
     private static void theMostCopiedOneMadeItPopular() {
