@@ -1,8 +1,13 @@
+import java.util.List;
+
 /** Compares answers with those that are due, and tells at the end whether all were right. */
 final class Check {
     interface Call {
         Object answer();
     }
+
+    private static final List<String> PROMISED = List.of("IndexOutOfBoundsException", "IllegalArgumentException",
+            "UnsupportedOperationException", "IllegalStateException", "NoSuchElementException");
 
     private static int wrong = 0;
     private static int asked = 0;
@@ -40,6 +45,22 @@ final class Check {
 
     static void absent(String what, Call call) {
         fails(what, java.util.NoSuchElementException.class, call);
+    }
+
+    /** The call is not refused, whatever it answers. */
+    static void goes(String what, Call call) {
+        asked++;
+        try {
+            call.answer();
+        } catch (RuntimeException thrown) {
+            wrong++;
+            System.out.println(what + ": was refused by " + thrown);
+        }
+    }
+
+    /** What the class throws itself has a name of the face; what the machine throws has another one. */
+    static void endsItself(String what, Object answer) {
+        same(what + " ends by " + answer, true, !(answer instanceof String) || PROMISED.contains(answer));
     }
 
     static Object answerOf(Call call) {
