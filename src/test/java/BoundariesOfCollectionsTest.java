@@ -1,11 +1,5 @@
 /** The boundary cases of "Collections" and "Quotes" and of promises 31 to 39, each behind the sentence that names it. */
 final class BoundariesOfCollectionsTest {
-    private static final int[] FAR = {Integer.MIN_VALUE, Integer.MIN_VALUE + 1, Integer.MAX_VALUE - 1, Integer.MAX_VALUE};
-
-    private interface OfNumber {
-        Object answer(WhosaidDesk desk, int number);
-    }
-
     private BoundariesOfCollectionsTest() {
     }
 
@@ -121,13 +115,13 @@ final class BoundariesOfCollectionsTest {
         }
     }
 
-    private static void absent(String what, int count, OfNumber call) {
+    private static void absent(String what, int count, Check.Asked call) {
         Scene scene = books(3);
         scene.desk.collection(1900);
         scene.desk.collection(1900);
         Check.index(what + " of -1", () -> call.answer(scene.desk, -1));
         Check.index(what + " behind the last one", () -> call.answer(scene.desk, count));
-        for (int far : FAR) {
+        for (int far : Check.FAR) {
             Check.index(what + " of " + far, () -> call.answer(scene.desk, far));
         }
         Check.goes(what + " of the first one", () -> call.answer(scene.desk, 0));
@@ -367,7 +361,7 @@ final class BoundariesOfCollectionsTest {
         Check.argument("36 outlet 10", () -> scene.desk.quote(10, 0, 0));
         Check.argument("39 outlet -1", () -> scene.desk.pushedTo(-1));
         Check.argument("39 outlet 10", () -> scene.desk.pushedTo(10));
-        for (int far : FAR) {
+        for (int far : Check.FAR) {
             Check.argument("36 outlet " + far, () -> scene.desk.quote(far, 0, 0));
             Check.argument("39 outlet " + far, () -> scene.desk.pushedTo(far));
         }

@@ -1,11 +1,8 @@
+import java.util.Arrays;
+
 /** The boundary cases of "Documents", "Differences" and "Searches" and of promises 9 to 16, by sentences. */
 final class BoundariesOfDocumentsTest {
-    private static final int[] FAR = {Integer.MIN_VALUE, Integer.MIN_VALUE + 1, Integer.MAX_VALUE - 1, Integer.MAX_VALUE};
     private static final String[] KINDS = {"book", "paper", "letter", "talk", "notes", "denial"};
-
-    private interface OfDocument {
-        Object answer(WhosaidDesk desk, int document);
-    }
 
     private BoundariesOfDocumentsTest() {
     }
@@ -53,7 +50,7 @@ final class BoundariesOfDocumentsTest {
         WhosaidDesk desk = ready("book").desk;
         Check.index("9 author -2", () -> desk.document(1800, 5, -2, -1, 0));
         Check.index("9 author behind the last one", () -> desk.document(1800, 5, 3, -1, 0));
-        for (int far : FAR) {
+        for (int far : Check.FAR) {
             Check.index("9 author " + far, () -> desk.document(1800, 5, far, -1, 0));
         }
         Check.same("9 no author", 0, ready("book").desk.document(1800, 5, -1, -1, 0));
@@ -66,7 +63,7 @@ final class BoundariesOfDocumentsTest {
         WhosaidDesk desk = ready("book").desk;
         Check.index("9 said -2", () -> desk.document(1800, 5, -1, -2, 0));
         Check.index("9 said behind the last one", () -> desk.document(1800, 5, -1, 3, 0));
-        for (int far : FAR) {
+        for (int far : Check.FAR) {
             Check.index("9 said " + far, () -> desk.document(1800, 5, -1, far, 0));
         }
         Check.same("9 nobody is named", 0, ready("book").desk.document(1800, 5, -1, -1, 0));
@@ -86,7 +83,7 @@ final class BoundariesOfDocumentsTest {
         WhosaidDesk desk = ready("book").desk;
         Check.argument("9 trust -1", () -> desk.document(1800, -1, -1, -1, 0));
         Check.argument("9 trust 10", () -> desk.document(1800, 10, -1, -1, 0));
-        for (int far : FAR) {
+        for (int far : Check.FAR) {
             Check.argument("9 trust " + far, () -> desk.document(1800, far, -1, -1, 0));
         }
         Check.same("9 trust 0", 0, ready("book").desk.document(1800, 0, -1, -1, 0));
@@ -98,7 +95,7 @@ final class BoundariesOfDocumentsTest {
         WhosaidDesk desk = ready("book").desk;
         Check.argument("9 hidden -1", () -> desk.document(1800, 5, -1, -1, -1));
         Check.argument("9 hidden 101", () -> desk.document(1800, 5, -1, -1, 101));
-        for (int far : FAR) {
+        for (int far : Check.FAR) {
             Check.argument("9 hidden " + far, () -> desk.document(1800, 5, -1, -1, far));
         }
         Check.same("9 hidden 0", 0, ready("book").desk.document(1800, 5, -1, -1, 0));
@@ -221,7 +218,7 @@ final class BoundariesOfDocumentsTest {
         Check.argument("10 depth 0", () -> desk.search(1800, 1900, 0, 0));
         Check.argument("10 depth -1", () -> desk.search(1800, 1900, -1, 0));
         Check.argument("10 depth 101", () -> desk.search(1800, 1900, 101, 0));
-        for (int far : FAR) {
+        for (int far : Check.FAR) {
             Check.argument("10 depth " + far, () -> desk.search(1800, 1900, far, 0));
         }
         Check.same("10 depth 1", 0, ready("book").desk.search(1800, 1900, 1, 0));
@@ -233,7 +230,7 @@ final class BoundariesOfDocumentsTest {
         WhosaidDesk desk = ready("book").desk;
         Check.argument("10 gap -1", () -> desk.search(1800, 1900, 1, -1));
         Check.argument("10 gap 10", () -> desk.search(1800, 1900, 1, 10));
-        for (int far : FAR) {
+        for (int far : Check.FAR) {
             Check.argument("10 gap " + far, () -> desk.search(1800, 1900, 1, far));
         }
         Check.same("10 gap 0", 0, ready("book").desk.search(1800, 1900, 1, 0));
@@ -319,7 +316,7 @@ final class BoundariesOfDocumentsTest {
     private static void gapsOfASearchAreMet() {
         for (int between = 0; between <= 8; between++) {
             int[] text = new int[between + 2];
-            java.util.Arrays.fill(text, Scene.FOUR);
+            Arrays.fill(text, Scene.FOUR);
             text[0] = Scene.ONE;
             text[between + 1] = Scene.TWO;
             for (int gap = 0; gap <= 9; gap++) {
@@ -392,7 +389,7 @@ final class BoundariesOfDocumentsTest {
         absentDocuments("16 stepAt, other", (desk, document) -> desk.stepAt(0, document, 0));
     }
 
-    private static void absentDocuments(String what, OfDocument call) {
+    private static void absentDocuments(String what, Check.Asked call) {
         Scene scene = new Scene();
         Check.index(what + " of none", () -> call.answer(scene.desk, 0));
         scene.book(1800, Scene.ONE);
@@ -404,7 +401,7 @@ final class BoundariesOfDocumentsTest {
         }
         Check.index(what + " of -1", () -> call.answer(scene.desk, -1));
         Check.index(what + " behind the last one", () -> call.answer(scene.desk, 3));
-        for (int far : FAR) {
+        for (int far : Check.FAR) {
             Check.index(what + " of " + far, () -> call.answer(scene.desk, far));
         }
     }
@@ -496,7 +493,7 @@ final class BoundariesOfDocumentsTest {
         Check.same("13 none by fame", 0, desk.moved());
     }
 
-    /** "a word stays '=', ... for 1 each, or another word of another concept 'w' for 3; ... 'd' for 1, or put in 'i' for 2" */
+    /** "for 1 each, or another word of another concept 'w' for 3; a word is left out 'd' for 1, or put in 'i' for 2" */
     private static void pairsCostByTheirWords() {
         Scene scene = new Scene();
         scene.book(1800, Scene.ONE);
@@ -559,7 +556,7 @@ final class BoundariesOfDocumentsTest {
         Check.same("16 the last step", 'd', scene.desk.stepAt(0, 1, 18));
         Check.index("16 behind the last step", () -> scene.desk.stepAt(0, 1, 19));
         Check.index("16 step -1", () -> scene.desk.stepAt(0, 1, -1));
-        for (int far : FAR) {
+        for (int far : Check.FAR) {
             Check.index("16 step " + far, () -> scene.desk.stepAt(0, 1, far));
         }
         Check.index("16 fewer steps of others", () -> scene.desk.stepAt(0, 0, 10));

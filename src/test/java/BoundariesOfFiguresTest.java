@@ -1,3 +1,5 @@
+import java.math.BigInteger;
+
 /** The boundary cases of promises 40 to 47, of "Not promised", and of the 512 calls, by sentences. */
 final class BoundariesOfFiguresTest {
     private BoundariesOfFiguresTest() {
@@ -153,18 +155,18 @@ final class BoundariesOfFiguresTest {
     /** "31 times itself" thirty times goes beyond a long, which wraps around. */
     private static void checksumsWrapAround() {
         Scene scene = new Scene();
-        java.math.BigInteger exact = java.math.BigInteger.valueOf(3);
+        BigInteger exact = BigInteger.valueOf(3);
         for (int many = 0; many < 30; many++) {
             scene.document("book", 2100, 9, -1, -1, 1, Scene.ONE);
-            exact = exact.multiply(java.math.BigInteger.valueOf(31)).add(java.math.BigInteger.valueOf(2100 - 7));
+            exact = exact.multiply(BigInteger.valueOf(31)).add(BigInteger.valueOf(2100 - 7));
             Check.same("44 of " + (many + 1), exact.longValue(), scene.desk.checksum());
         }
         Check.same("44 it does go beyond a long", true, exact.bitLength() > 64);
         scene.search("book", 2100, 2100, 1, 0, Scene.ONE);
-        java.math.BigInteger found = java.math.BigInteger.valueOf(3);
+        BigInteger found = BigInteger.valueOf(3);
         for (int many = 0; many < 30; many++) {
             int more = many == 0 ? 2100 - 7 + 1 : 2100 + 1;
-            found = found.multiply(java.math.BigInteger.valueOf(31)).add(java.math.BigInteger.valueOf(more));
+            found = found.multiply(BigInteger.valueOf(31)).add(BigInteger.valueOf(more));
         }
         Check.same("44 all copies of the first one", found.longValue(), scene.desk.checksum());
     }

@@ -1,15 +1,6 @@
 /** The boundary cases of "Verdicts" and of promises 24 to 30, each behind the sentence that names it. */
 final class BoundariesOfVerdictsTest {
-    private static final int[] FAR = {Integer.MIN_VALUE, Integer.MIN_VALUE + 1, Integer.MAX_VALUE - 1, Integer.MAX_VALUE};
     private static final String[] VERSION_KINDS = {"book", "paper", "letter", "talk", "notes"};
-
-    private interface OfDocument {
-        Object answer(WhosaidDesk desk, int document);
-    }
-
-    private interface OfPerson {
-        Object answer(WhosaidDesk desk, int person);
-    }
 
     private BoundariesOfVerdictsTest() {
     }
@@ -72,9 +63,12 @@ final class BoundariesOfVerdictsTest {
         int person = scene.desk.person(1800, 2000);
         Check.same("24 a year ahead of the word", false, scene.desk.couldSay(scene.book(1849, 7), person));
         Check.same("24 in the word's year", true, scene.desk.couldSay(scene.book(1850, 7), person));
-        Check.same("24 the first of ten", false, scene.desk.couldSay(scene.book(1849, 7, 0, 0, 0, 0, 0, 0, 0, 0, 0), person));
-        Check.same("24 the last of ten", false, scene.desk.couldSay(scene.book(1849, 0, 0, 0, 0, 0, 0, 0, 0, 0, 7), person));
-        Check.same("24 none of ten", true, scene.desk.couldSay(scene.book(1849, 0, 0, 0, 0, 0, 0, 0, 0, 0, 0), person));
+        int first = scene.book(1849, 7, 0, 0, 0, 0, 0, 0, 0, 0, 0);
+        int last = scene.book(1849, 0, 0, 0, 0, 0, 0, 0, 0, 0, 7);
+        int none = scene.book(1849, 0, 0, 0, 0, 0, 0, 0, 0, 0, 0);
+        Check.same("24 the first of ten", false, scene.desk.couldSay(first, person));
+        Check.same("24 the last of ten", false, scene.desk.couldSay(last, person));
+        Check.same("24 none of ten", true, scene.desk.couldSay(none, person));
     }
 
     /** "and by the year of death" */
@@ -517,13 +511,13 @@ final class BoundariesOfVerdictsTest {
         absentPeople("27 since", (desk, person) -> desk.since(0, person));
     }
 
-    private static void absentPeople(String what, OfPerson call) {
+    private static void absentPeople(String what, Check.Asked call) {
         Scene scene = new Scene();
         scene.naming(Scene.ADA, 1800, Scene.ONE);
         scene.naming(Scene.CYD, 1801, Scene.ONE);
         Check.index(what + " of nobody", () -> call.answer(scene.desk, -1));
         Check.index(what + " behind the last one", () -> call.answer(scene.desk, 3));
-        for (int far : FAR) {
+        for (int far : Check.FAR) {
             Check.index(what + " of " + far, () -> call.answer(scene.desk, far));
         }
         Check.goes(what + " of the first one", () -> call.answer(scene.desk, 0));
@@ -542,7 +536,7 @@ final class BoundariesOfVerdictsTest {
         absentDocuments("30 isProverb", (desk, document) -> desk.isProverb(document));
     }
 
-    private static void absentDocuments(String what, OfDocument call) {
+    private static void absentDocuments(String what, Check.Asked call) {
         Scene scene = new Scene();
         Check.index(what + " of none", () -> call.answer(scene.desk, 0));
         scene.naming(Scene.ADA, 1800, Scene.ONE);
@@ -551,7 +545,7 @@ final class BoundariesOfVerdictsTest {
         Check.goes(what + " of the last one", () -> call.answer(scene.desk, 1));
         Check.index(what + " of -1", () -> call.answer(scene.desk, -1));
         Check.index(what + " behind the last one", () -> call.answer(scene.desk, 2));
-        for (int far : FAR) {
+        for (int far : Check.FAR) {
             Check.index(what + " of " + far, () -> call.answer(scene.desk, far));
         }
     }
@@ -574,7 +568,7 @@ final class BoundariesOfVerdictsTest {
         Check.same("25 a denial too", true, scene.desk.isPossible(1));
     }
 
-    private static void needsVersion(String what, OfDocument call) {
+    private static void needsVersion(String what, Check.Asked call) {
         Scene scene = new Scene();
         scene.document("book", 1800, 9, -1, Scene.ADA, 1, Scene.ONE);
         scene.denial(Scene.ADA, 1800, Scene.ONE);

@@ -1,11 +1,5 @@
 /** The boundary cases of "Denials" and "Ways" and of promises 17 to 23, each behind the sentence that names it. */
 final class BoundariesOfWaysTest {
-    private static final int[] FAR = {Integer.MIN_VALUE, Integer.MIN_VALUE + 1, Integer.MAX_VALUE - 1, Integer.MAX_VALUE};
-
-    private interface OfDocument {
-        Object answer(WhosaidDesk desk, int document);
-    }
-
     private BoundariesOfWaysTest() {
     }
 
@@ -410,7 +404,7 @@ final class BoundariesOfWaysTest {
         Check.same("22 the last index", 1, scene.desk.versionAt(0, 1));
         Check.absent("22 behind the last index", () -> scene.desk.versionAt(0, 2));
         Check.absent("22 behind the last index of another tree", () -> scene.desk.versionAt(2, 1));
-        for (int far : FAR) {
+        for (int far : Check.FAR) {
             Check.absent("22 index " + far, () -> scene.desk.versionAt(0, far));
         }
         WhosaidDesk full = longestChain();
@@ -428,7 +422,7 @@ final class BoundariesOfWaysTest {
         needsVersion("23 below", (desk, document) -> desk.below(document));
     }
 
-    private static void needsVersion(String what, OfDocument call) {
+    private static void needsVersion(String what, Check.Asked call) {
         Scene scene = new Scene();
         Check.index(what + " of none", () -> call.answer(scene.desk, 0));
         scene.document("book", 1800, 9, -1, -1, 1, Scene.ONE);
@@ -442,7 +436,7 @@ final class BoundariesOfWaysTest {
         Check.goes(what + " of the last one", () -> call.answer(scene.desk, 4));
         Check.index(what + " of -1", () -> call.answer(scene.desk, -1));
         Check.index(what + " behind the last one", () -> call.answer(scene.desk, 5));
-        for (int far : FAR) {
+        for (int far : Check.FAR) {
             Check.index(what + " of " + far, () -> call.answer(scene.desk, far));
         }
         scene.search("book", 1800, 1800, 1, 0, Scene.ONE);

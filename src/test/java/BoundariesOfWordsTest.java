@@ -1,11 +1,5 @@
 /** The boundary cases of "Words" and of promises 1 to 8, each behind the sentence that names it. */
 final class BoundariesOfWordsTest {
-    private static final int[] FAR = {Integer.MIN_VALUE, Integer.MIN_VALUE + 1, Integer.MAX_VALUE - 1, Integer.MAX_VALUE};
-
-    private interface OfYear {
-        Object answer(WhosaidDesk desk, int year);
-    }
-
     private BoundariesOfWordsTest() {
     }
 
@@ -45,14 +39,14 @@ final class BoundariesOfWordsTest {
         years("31 collection", (desk, year) -> desk.collection(year));
     }
 
-    private static void years(String what, OfYear call) {
+    private static void years(String what, Check.Asked call) {
         for (int year : new int[] {1000, 1001, 2099, 2100}) {
             Check.goes(what + " in " + year, () -> call.answer(readyDesk(), year));
         }
         for (int year : new int[] {999, 2101, 0, -1000}) {
             Check.argument(what + " in " + year, () -> call.answer(readyDesk(), year));
         }
-        for (int year : FAR) {
+        for (int year : Check.FAR) {
             Check.argument(what + " in " + year, () -> call.answer(readyDesk(), year));
         }
     }
@@ -88,7 +82,7 @@ final class BoundariesOfWordsTest {
         WhosaidDesk desk = new WhosaidDesk();
         Check.argument("2 concept -1", () -> desk.word(-1, 0, 1000));
         Check.argument("2 concept 31", () -> desk.word(31, 0, 1000));
-        for (int far : FAR) {
+        for (int far : Check.FAR) {
             Check.argument("2 concept " + far, () -> desk.word(far, 0, 1000));
         }
         Check.same("2 concept 0", 0, desk.word(0, 0, 1000));
@@ -100,7 +94,7 @@ final class BoundariesOfWordsTest {
         WhosaidDesk desk = new WhosaidDesk();
         Check.argument("2 tongue -1", () -> desk.word(0, -1, 1000));
         Check.argument("2 tongue 4", () -> desk.word(0, 4, 1000));
-        for (int far : FAR) {
+        for (int far : Check.FAR) {
             Check.argument("2 tongue " + far, () -> desk.word(0, far, 1000));
         }
         Check.same("2 tongue 0", 0, desk.word(0, 0, 1000));
@@ -129,7 +123,7 @@ final class BoundariesOfWordsTest {
         desk.word(0, 0, 1000);
         Check.index("3 -1", () -> desk.say(-1));
         Check.index("3 behind the last one", () -> desk.say(2));
-        for (int far : FAR) {
+        for (int far : Check.FAR) {
             Check.index("3 " + far, () -> desk.say(far));
         }
         Check.same("3 the first one", 1, desk.say(0));
@@ -245,7 +239,7 @@ final class BoundariesOfWordsTest {
         Check.argument("7 fame 21", () -> desk.setFame(0, 21, 0, 1800));
         Check.argument("7 growth -1", () -> desk.setFame(0, 0, -1, 1800));
         Check.argument("7 growth 21", () -> desk.setFame(0, 0, 21, 1800));
-        for (int far : FAR) {
+        for (int far : Check.FAR) {
             Check.argument("7 fame " + far, () -> desk.setFame(0, far, 0, 1800));
             Check.argument("7 growth " + far, () -> desk.setFame(0, 0, far, 1800));
         }
@@ -263,7 +257,7 @@ final class BoundariesOfWordsTest {
         Check.index("7 behind the last one", () -> desk.setFame(3, 1, 1, 1800));
         Check.index("8 -1", () -> desk.fame(-1, 1800));
         Check.index("8 behind the last one", () -> desk.fame(3, 1800));
-        for (int far : FAR) {
+        for (int far : Check.FAR) {
             Check.index("7 " + far, () -> desk.setFame(far, 1, 1, 1800));
             Check.index("8 " + far, () -> desk.fame(far, 1800));
         }

@@ -2,8 +2,16 @@ import java.util.List;
 
 /** Compares answers with those that are due, and tells at the end whether all were right. */
 final class Check {
+    /** Numbers that are out of every range. */
+    static final int[] FAR = {Integer.MIN_VALUE, Integer.MIN_VALUE + 1, Integer.MAX_VALUE - 1, Integer.MAX_VALUE};
+
     interface Call {
         Object answer();
+    }
+
+    /** A call that is asked with one number after another. */
+    interface Asked {
+        Object answer(WhosaidDesk desk, int number);
     }
 
     private static final List<String> PROMISED = List.of("IndexOutOfBoundsException", "IllegalArgumentException",

@@ -1,6 +1,7 @@
 import java.lang.reflect.InvocationTargetException;
 import java.lang.reflect.Method;
 import java.util.ArrayList;
+import java.util.Arrays;
 import java.util.List;
 
 /** All promises: runs of calls, the same ones each time, on the class and on the model. */
@@ -150,7 +151,7 @@ final class RandomRunsTest {
         if (calls <= CALLS) {
             Object want = answer(model, Model.class, name, arguments);
             Object got = answer(desk, WhosaidDesk.class, name, arguments);
-            Check.same(run + ", call " + calls + ", " + name + java.util.Arrays.toString(arguments), want, got);
+            Check.same(run + ", call " + calls + ", " + name + Arrays.toString(arguments), want, got);
         }
     }
 
